@@ -37,6 +37,7 @@ public final class OnlyWhatIsLost {
 
     private static final int STEADY = 2;
     private static final int ERRORS = 5;
+    private static final int HANDS = ERRORS * ERRORS;
 
     private static final int MOST_DRAWN_BY = 9999;
     private static final int MOST_DRAWN_YEARS = 60;
@@ -268,16 +269,18 @@ public final class OnlyWhatIsLost {
         }
         int hits = 0;
         int first = NONE;
+        long drawn = 0L;
+        int hands = handsShowing(drawn);
         for (int year = 0; year <= here.now.year; year++) {
-            long drawn = here.drawnCells(year);
-            for (int hand = 0; hand < ERRORS * ERRORS; hand++) {
-                int down = hand / ERRORS - STEADY;
-                int right = hand % ERRORS - STEADY;
-                if (here.grid.shiftAll(drawn, down, right) == seenCells) {
-                    first = hits == 0 ? ERRORS * ERRORS * year + hand : first;
-                    hits++;
-                }
+            // In most YEARS nothing falls, and then as many hands show the same.
+            if (drawn != here.drawnCells(year)) {
+                drawn = here.drawnCells(year);
+                hands = handsShowing(drawn);
             }
+            if (hits == 0 && hands > 0) {
+                first = HANDS * year + firstHandShowing(drawn);
+            }
+            hits += hands;
         }
         return what == 0 ? hits : first;
     }
@@ -404,6 +407,29 @@ public final class OnlyWhatIsLost {
             }
         }
         return NONE;
+    }
+
+    private int handsShowing(long drawn) {
+        int hands = 0;
+        for (int hand = 0; hand < HANDS; hand++) {
+            hands += showsJustSeen(drawn, hand) ? 1 : 0;
+        }
+        return hands;
+    }
+
+    private int firstHandShowing(long drawn) {
+        for (int hand = 0; hand < HANDS; hand++) {
+            if (showsJustSeen(drawn, hand)) {
+                return hand;
+            }
+        }
+        return NONE;
+    }
+
+    private boolean showsJustSeen(long drawn, int hand) {
+        int down = hand / ERRORS - STEADY;
+        int right = hand % ERRORS - STEADY;
+        return here.grid.shiftAll(drawn, down, right) == seenCells;
     }
 
     private static int drawOf(int z, int k) {
