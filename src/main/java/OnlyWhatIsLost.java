@@ -929,8 +929,8 @@ public final class OnlyWhatIsLost {
         private int total;
 
         Shelf(int most) {
-            moments = new Moment[most];
-            for (int k = 0; k < most; k++) {
+            moments = new Moment[Math.max(most, 1)];
+            for (int k = 0; k < moments.length; k++) {
                 moments[k] = new Moment();
             }
         }

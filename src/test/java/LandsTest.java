@@ -239,6 +239,8 @@ public final class LandsTest {
 
     private static void freeCells() {
         OnlyWhatIsLost x = new OnlyWhatIsLost();
+        Due.due("8: year 0", x.free(6, 0), 0);
+        Due.due("8: year 0, nothing built yet", x.free(17, 0), 1);
         Due.due("8: ahead of B", x.free(17, 1), 1);
         Due.due("8: from B on", x.free(17, 2), 0);
         Due.due("8: till F", x.free(17, 3), 0);

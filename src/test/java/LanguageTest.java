@@ -11,6 +11,10 @@ public final class LanguageTest {
         "\\bsynchronized\\b", "\\bassert\\b", "\\binstanceof\\b", "\\bstatic\\s*\\{", "Exact\\b", "\\bdouble\\b",
         "\\bfloat\\b", "\\bvar\\b", "\\bnull\\b", "System\\.(?!arraycopy)", "Math\\.(?!(min|max|abs)\\b)",
         "Long\\.(?!bitCount\\b)", "\\bjava\\.", "\\bThread\\b", "\\bwhile\\s*\\(\\s*true"};
+    // All calls live in one room, so rows are made with the object alone: in fields and constructors.
+    private static final String MADE_ONCE =
+        " +private final .*= new .*;| {8}[a-z]+ = new [A-Za-z]+\\([A-Z_]*\\);"
+            + "| {12}moments = new Moment\\[.*\\];| {16}moments\\[k\\] = new Moment\\(\\);";
     private static final int LONGEST_METHOD = 60;
 
     public static void main(String[] args) throws IOException {
@@ -22,6 +26,8 @@ public final class LanguageTest {
             for (String ruledOut : RULED_OUT) {
                 Due.due("line " + (n + 1) + " has " + ruledOut, Pattern.compile(ruledOut).matcher(code).find() ? 1 : 0, 0);
             }
+            boolean made = Pattern.compile("\\bnew\\b").matcher(code).find();
+            Due.due("line " + (n + 1) + " makes rows once", made && !code.matches(MADE_ONCE) ? 1 : 0, 0);
             Due.due("line " + (n + 1) + " has signs 32 to 126 alone", line.matches("[ -~]*") ? 1 : 0, 1);
             if (code.matches("( {4}| {8})\\S.*\\) \\{")) {
                 methodStart = n;

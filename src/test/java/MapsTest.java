@@ -32,6 +32,7 @@ public final class MapsTest {
         Due.due("19: none", x.wrong(2, 1), NONE);
         Due.due("19: nothing shown", x.wrong(3, 0), 0);
         Due.due("19: none of nothing", x.wrong(3, 1), NONE);
+        Due.due("19: CELL 0, the lowest", Due.laid("t1,0,1,0;t3,0,1,0;m1,2,1;").wrong(0, 1), 0);
         Due.due("19: wrong(4, 0)", x.wrong(4, 0), BAD);
         Due.due("19: wrong(-1, 0)", x.wrong(-1, 0), BAD);
         Due.due("19: wrong(0, 2)", x.wrong(0, 2), BAD);
@@ -44,6 +45,7 @@ public final class MapsTest {
         Due.due("20: nothing is lost", Due.laid("t0,0,9,0;m1,2,2;").older(), 1);
         String five = "t0,0,1,0;t1,0,2,1;t2,0,3,2;t3,0,4,3;t4,0,5,0;t5,0,99,0;";
         Due.due("20: one map", Due.laid(five + "m4,2,2;").older(), 6);
+        Due.due("20: but moved ones do", Due.laid("t0,0,1,2;t1,0,1,2;m1,2,2;").older(), 2);
         Due.due("20: secrets do not count", Due.laid(five + "m5,2,2;").older(), 24);
         Due.due("20: two maps", Due.laid(five + "m5,2,2;m2,0,1;").older(), 4);
         Due.due("20: two of one year", Due.laid(five + "m5,2,2;m5,0,1;").older(), 24);
@@ -138,6 +140,7 @@ public final class MapsTest {
         Due.due("25: not for the better", x.fire(5, 6, 0), NONE);
         Due.due("25: no way is shorter", x.fire(5, 6, 1), NONE);
         Due.due("25: a wall can't be", x.fire(2, 2, 0), NONE);
+        Due.due("25: the first thing", Due.laid("r2,2;t0,0,9,2;t1,0,9,1;").fire(0, 2, 0), 0);
         x.burn(1);
         Due.due("25: shorter than now", x.fire(10, 14, 0), 2);
         Due.due("25: its way", x.fire(10, 14, 1), 4);

@@ -70,6 +70,9 @@ public final class WalksTest {
         Due.due("17: what nobody draws", x.pull(8, 9, true), NONE);
         x.burn(1);
         Due.due("17: burnt already", x.pull(0, 1, true), 0);
+        x.undo();
+        x.undo();
+        Due.due("17: the first thing", x.pull(0, 1, true), 2);
         OnlyWhatIsLost y = Due.laid("r2,2;t1,0,9,2;t0,0,9,2;");
         Due.due("17: at the end of a row at its own", y.pull(1, 1, true), 1);
         Due.due("17: two would be drawn at one cell", y.pull(0, 1, true), NONE);
@@ -109,6 +112,7 @@ public final class WalksTest {
         Due.due("18: up again", down.wander(0, 4, 6), 4);
         Due.due("18: down ahead of right", Due.laid("r2,3;t4,0,9,1;m0,2,2;").wander(0, 0, 5), 5);
         Due.due("18: down ahead of right, shut", Due.laid("r3,3;t4,0,9,1;t7,0,9,1;m0,2,2;").wander(0, 0, 8), 8);
+        Due.due("18: what is above is seen", Due.laid("r3,3;t4,0,9,1;m0,2,2;").wander(0, 7, 1), 4);
         Due.due("18: up ahead of right, shut", Due.laid("r3,3;t4,0,9,1;t1,0,9,1;m0,2,2;").wander(0, 6, 2), 8);
         Due.due("18: right ahead of left", Due.laid("r4,5;t7,0,9,1;t8,0,9,1;t6,0,9,1;t3,0,9,1;m0,2,2;").wander(0, 2, 12), 6);
     }
