@@ -510,20 +510,14 @@ public final class OnlyWhatIsLost {
             draft.clear();
             int place = 0;
             for (int items = 0; items < MOST_LETTERS && place < text.length(); items++) {
-                int end = readItem(text, place);
-                if (end == NONE) {
+                char letter = text.signAt(place);
+                int end = readNumbers(text, place + 1, numbersBehind(letter));
+                if (end == NONE || !isTaken(letter)) {
                     return place;
                 }
                 place = end;
             }
             return NONE;
-        }
-
-        /** The place behind the ITEM, or NONE. */
-        private int readItem(Letters text, int place) {
-            char letter = text.signAt(place);
-            int end = readNumbers(text, place + 1, numbersBehind(letter));
-            return end != NONE && isTaken(letter) ? end : NONE;
         }
 
         private static int numbersBehind(char letter) {
@@ -535,6 +529,7 @@ public final class OnlyWhatIsLost {
             }
         }
 
+        /** The place behind the ITEM, or NONE. */
         private int readNumbers(Letters text, int from, int wanted) {
             int place = from;
             for (int k = 0; k < wanted && k < numbers.length; k++) {
@@ -890,7 +885,7 @@ public final class OnlyWhatIsLost {
 
         int thingOf(int x) {
             for (int t = 0; t < total; t++) {
-                if (cellOf(t) == x) {
+                if (cells[t] == x) {
                     return t;
                 }
             }
