@@ -232,6 +232,9 @@ public final class WalksTest {
         OnlyWhatIsLost x = Due.laid("r4,5;t3,0,9,1;t8,0,9,1;t13,0,9,1;m0,2,2;");
         Due.due("along the wall till its end", x.wander(0, 2, 4), 8);
         Due.due("into the pocket and out", Due.laid("r4,4;t6,0,9,1;t9,0,9,1;t2,0,9,1;m0,2,2;").wander(0, 5, 7), 10);
+        // The map shows 0 alone: 2 1 for it, where 0 and 5 are seen, then 2 6 10 9 8 4; known ahead, 6 would be first.
+        String corner = "r3,4;t0,0,99,1;t5,0,99,1;t1,0,1,0;m1,2,1;";
+        Due.due("what is not beside is not seen, even CELL 0", Due.laidIn(1, corner).wander(0, 2, 4), 7);
         Due.due("what does not stand yet is not seen", Due.laid("r3,3;t4,1,9,1;m0,2,2;").wander(0, 7, 1), 2);
         Due.due("nor what is lost", Due.laidIn(9, "r3,3;t4,0,9,1;m0,2,2;").wander(0, 7, 1), 2);
         Due.says(18, "Of walks to b that are not through CELLS that one remembers so, the cheapest is taken,");
