@@ -167,6 +167,12 @@ public final class WalksTest {
         }
         Due.due("a long walk ahead of a thing", Due.laid("r8,8;t1,0,9,1;t9,0,9,1;t17,0,9,1;t25,0,9,1;t33,0,9,1;"
             + "t41,0,9,1;t49,0,9,1;").pull(0, 2, false), 0);
+        // A way out of it leads round the things, long behind the ones that lead through them.
+        OnlyWhatIsLost bay = Due.laid("r8,8;t59,0,9,1;t30,0,9,1;t53,0,9,1;t54,0,9,1;t45,0,9,1;"
+            + "t60,0,9,1;t39,0,9,1;t52,0,9,1;t31,0,9,1;t29,0,9,1;");
+        for (int cell = 0; cell < 64; cell++) {
+            Due.due("pull(" + cell + ", 61, false)", bay.pull(cell, 61, false), bay.at(cell) == NONE ? 0 : 1);
+        }
         Due.idle("pull(7, 3, false)", Due::busy, x -> x.pull(7, 3, false), 2);
     }
 
